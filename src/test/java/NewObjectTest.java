@@ -1,12 +1,35 @@
+import java.lang.reflect.Field;
+import java.lang.reflect.Modifier;
+import java.util.Arrays;
+
 /** Promise 1: a new object. */
 public final class NewObjectTest {
     private static final Check CHECK = new Check();
 
-    public static void main(String[] args) {
+    public static void main(String[] args) throws IllegalAccessException {
+        stateIsZeroOverOne();
         startsWithoutPulses();
         staysSoAfterRefusedRatios();
         objectsAreSeparate();
         CHECK.finish();
+    }
+
+    // With numerator 0 no call shows the modulus, so the fields are looked at.
+    // Their names are free, so only their values are: 0, 0 and 1 in any order;
+    // which of them is the 1 follows from the ticks and the phase.
+    private static void stateIsZeroOverOne() throws IllegalAccessException {
+        FracDivider x = new FracDivider();
+        Field[] state = Arrays.stream(FracDivider.class.getDeclaredFields())
+            .filter(f -> !Modifier.isStatic(f.getModifiers()))
+            .toArray(Field[]::new);
+        int[] values = new int[state.length];
+        for (int i = 0; i < state.length; i++) {
+            state[i].setAccessible(true);
+            values[i] = state[i].getInt(x);
+        }
+        Arrays.sort(values);
+        boolean asDue = Arrays.equals(values, new int[] {0, 0, 1});
+        CHECK.due("new, fields " + Arrays.toString(values) + " are 0, 0 and 1", asDue ? 1 : 0, 1);
     }
 
     private static void startsWithoutPulses() {
