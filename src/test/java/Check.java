@@ -9,6 +9,19 @@ final class Check {
         }
     }
 
+    void holds(String what, boolean holds) {
+        if (!holds) {
+            wrong++;
+            System.out.println(what + ": does not hold");
+        }
+    }
+
+    void state(String what, FracDivider x, int n, int m, int r) {
+        State state = State.of(x);
+        boolean asDue = state.n == n && state.m == m && state.r == r;
+        holds(what + ": the state " + state + " is " + new State(n, m, r), asDue);
+    }
+
     /** The answers of the ticks, each with the remainder after it. */
     void ticks(String what, FracDivider x, int[] answers, int[] remainders) {
         for (int i = 0; i < answers.length; i++) {

@@ -7,6 +7,9 @@ public final class PhaseTest {
         readingDoesNotDisturbTheTicks();
         largeRemaindersAreNotNegative();
         staysBelowTheModulus();
+        isBelowTheModulusNowInForce();
+        answersTheRemainderInEveryState();
+        changesNothingInAnyState();
         CHECK.finish();
     }
 
@@ -67,9 +70,42 @@ public final class PhaseTest {
             for (int i = 1; i <= 1000; i++) {
                 x.tick();
                 int phase = x.phase();
-                boolean inRange = 0 <= phase && phase < r[1];
-                CHECK.due(r[0] + "/" + r[1] + ", phase " + phase + " in range after tick " + i, inRange ? 1 : 0, 1);
+                String what = r[0] + "/" + r[1] + ", phase " + phase + " in range after tick " + i;
+                CHECK.holds(what, 0 <= phase && phase < r[1]);
             }
+        }
+    }
+
+    // A remainder of the old modulus may be far above a new, smaller one; a
+    // smaller modulus that is refused is not in force.
+    private static void isBelowTheModulusNowInForce() {
+        FracDivider x = new FracDivider();
+        x.setRatio(60000, 65535);
+        x.tick();
+        read("60000/65535 after one tick", x, 60000, 2);
+        x.setRatio(3, 2);
+        read("60000/65535 after the refused ratio 3/2", x, 60000, 2);
+        x.setRatio(1, 2);
+        read("1/2 at the start", x, 0, 2);
+        x.tick();
+        read("1/2 after one tick", x, 1, 2);
+        x.setRatio(1, 1);
+        read("1/1 at the start", x, 0, 2);
+        x.tick();
+        read("1/1 after one tick", x, 0, 2);
+    }
+
+    private static void answersTheRemainderInEveryState() {
+        for (State s : State.samples()) {
+            CHECK.due(s + ", phase", s.object().phase(), s.r);
+        }
+    }
+
+    private static void changesNothingInAnyState() {
+        for (State s : State.samples()) {
+            FracDivider x = s.object();
+            read(s.toString(), x, s.r, 3);
+            CHECK.state(s + ", after three readings", x, s.n, s.m, s.r);
         }
     }
 }

@@ -31,13 +31,13 @@ public final class PublicFaceTest {
             "public int FracDivider.setRatio(int,int)",
             "public int FracDivider.tick()",
             "public int FracDivider.phase()"));
-        holds("members are " + seen + ", due are " + due, seen.equals(due));
+        CHECK.holds("members are " + seen + ", due are " + due, seen.equals(due));
 
         int modifiers = FracDivider.class.getModifiers();
-        holds("the class is public and final", Modifier.isPublic(modifiers) && Modifier.isFinal(modifiers));
-        holds("the class extends nothing", FracDivider.class.getSuperclass() == Object.class);
-        holds("the class implements nothing", FracDivider.class.getInterfaces().length == 0);
-        holds("the class has no nested class", FracDivider.class.getDeclaredClasses().length == 0);
+        CHECK.holds("the class is public and final", Modifier.isPublic(modifiers) && Modifier.isFinal(modifiers));
+        CHECK.holds("the class extends nothing", FracDivider.class.getSuperclass() == Object.class);
+        CHECK.holds("the class implements nothing", FracDivider.class.getInterfaces().length == 0);
+        CHECK.holds("the class has no nested class", FracDivider.class.getDeclaredClasses().length == 0);
     }
 
     private static void stateIsThreeChars() {
@@ -45,9 +45,9 @@ public final class PublicFaceTest {
         for (Field f : FracDivider.class.getDeclaredFields()) {
             if (Modifier.isStatic(f.getModifiers())) {
                 boolean number = f.getType() == int.class || f.getType() == long.class;
-                holds(f + " is a constant of int or long", number && Modifier.isFinal(f.getModifiers()));
+                CHECK.holds(f + " is a constant of int or long", number && Modifier.isFinal(f.getModifiers()));
             } else {
-                holds(f + " is a char", f.getType() == char.class);
+                CHECK.holds(f + " is a char", f.getType() == char.class);
                 chars++;
             }
         }
@@ -58,9 +58,5 @@ public final class PublicFaceTest {
         if (!Modifier.isPrivate(modifiers)) {
             seen.add(member);
         }
-    }
-
-    private static void holds(String what, boolean holds) {
-        CHECK.due(what, holds ? 1 : 0, 1);
     }
 }
