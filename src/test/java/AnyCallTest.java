@@ -1,6 +1,9 @@
 import java.util.function.IntSupplier;
 
-/** No method ever throws, and every call returns, for any arguments and in any state. */
+/**
+ * No method ever throws, every call returns, and the values keep their bounds,
+ * for any arguments and in any state.
+ */
 public final class AnyCallTest {
     private static final Check CHECK = new Check();
 
@@ -11,6 +14,7 @@ public final class AnyCallTest {
         constructorReturns();
         setRatioReturnsForAnyArguments();
         everyMethodReturnsInAnyState();
+        everyCallKeepsTheBoundsOfTheState();
         mixedCallsFollowTheDocument();
         CHECK.finish();
     }
@@ -62,6 +66,31 @@ public final class AnyCallTest {
                 returns(s + ", setRatio(" + s.n + ", " + value + ")", () -> y.setRatio(s.n, value));
             }
         }
+    }
+
+    private static void everyCallKeepsTheBoundsOfTheState() {
+        keepsTheBounds("a new object", new FracDivider());
+        for (State s : State.samples()) {
+            FracDivider x = s.object();
+            x.phase();
+            keepsTheBounds(s + ", after phase", x);
+            x.tick();
+            keepsTheBounds(s + ", after tick", x);
+            for (int value : ARGUMENTS) {
+                x = s.object();
+                x.setRatio(value, s.m);
+                keepsTheBounds(s + ", after setRatio(" + value + ", " + s.m + ")", x);
+                x = s.object();
+                x.setRatio(s.n, value);
+                keepsTheBounds(s + ", after setRatio(" + s.n + ", " + value + ")", x);
+            }
+        }
+    }
+
+    private static void keepsTheBounds(String what, FracDivider x) {
+        State s = State.of(x);
+        CHECK.holds(what + ": the remainder is below the modulus in " + s, s.r < s.m);
+        CHECK.holds(what + ": the numerator is not above the modulus in " + s, s.n <= s.m);
     }
 
     // A long fixed run of calls of all kinds, beside a model that is written
